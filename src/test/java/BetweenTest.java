@@ -175,6 +175,7 @@ public final class BetweenTest {
         dueWhy("the PARTIES with the least numbers, not the PAPERS", x, 2, 3, 0, 0, 0, 1, 2, 3, 4);
         dueWhy("they themselves", x, 0, 1, 0, 0, 0, 3, 4);
         dueWhy("one of both", x, 0, 4, 0, 0, 0, 0, 3, 4);
+        dueWhy("none of what was asked before", x, 0, 1, 0, 0, 0, 3, 4);
         x.withdraw(1, 3);
         dueWhy("the next one", x, 3, 4, 0, 0, 0, 0, 1, 2, 4);
     }
@@ -355,6 +356,8 @@ public final class BetweenTest {
         check.dueRow("24: two CONSENTS", Check.has(x, 2, 0, 6, 5), 4, 6);
         due("two CONSENTS", x, 0, 2, 0, 6, 5, 4, 80);
         dueWhy("the least of them", x, 0, 2, 0, 6, 5, 0, 1, 2, 3, 4, 5);
+        dueWhy("the DAY ahead, of those before", x, 0, 1, 0, 5, 5, 0, 1, 2, 3, 4);
+        dueWhy("ahead of the CONSENTS, none of them", x, 0, 1, 0, 3, 5, 0, 1);
     }
 
     private static void changedAsKnown() {

@@ -451,6 +451,11 @@ public final class PapersTest {
         check.due("22: the last PAPER counts", x.members(0, 1, 1), 3);
         check.due("19: in WHY too", x.why(0, 2, 0, 1, 1, 1, 1), 399);
         check.due("15: no room again", x.note(1), -8);
+        x.undo();
+        check.due("14: the last PAPER, a FOLLOW", x.follow(2, 1, 0, false), 399);
+        check.due("19: and the one that it names", x.why(0, 2, 0, 1, 1, 1, 1), 4);
+        check.due("19: and itself", x.why(0, 2, 0, 1, 1, 1, 2), 399);
+        check.due("19: and no more", x.why(0, 2, 0, 1, 1, 1, 3), NONE);
     }
 
     private static void paper() {

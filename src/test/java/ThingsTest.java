@@ -106,6 +106,10 @@ public final class ThingsTest {
         check.due("4: the WORDS bind", x.words(0, 1, 0, 0, 0, 0), 43);
         check.due("4: article then", x.article(0, 0, 44), NONE);
         check.due("4: the WORDS bind still", x.words(0, 1, 0, 0, 0, 0), 43);
+        TreatyHouse y = Check.houseWith(1);
+        y.agreement(1, 1, 0, 0);
+        y.sign(0, 0);
+        check.due("4: PAPER 0 alone", y.article(0, 0, 44), NONE);
     }
 
     private static void clock() {
