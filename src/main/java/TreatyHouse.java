@@ -880,20 +880,25 @@ public final class TreatyHouse {
         }
     }
 
-    /** One of two PARTIES, on a DAY, as known on another: what it HAS. */
+    /** One of two PARTIES, on a DAY, as known on another: which PAPERS it HAS, by their numbers. */
     private static final class Side {
+        final boolean[] had;
         Paper membership;
-        int day;
-        int known;
 
-        void set(Paper membership, int day, int known) {
+        Side() {
+            had = new boolean[MAX_PAPERS];
+        }
+
+        void fill(Register register, Paper membership, int d, int k) {
             this.membership = membership;
-            this.day = day;
-            this.known = known;
+            for (int x = 0; x < register.length && x < had.length; x++) {
+                Paper paper = register.at(x);
+                had[x] = paper != null && paper.stands(d, k) && paper.isHeldBy(membership, k);
+            }
         }
 
         boolean hasPaper(Paper paper) {
-            return paper != null && paper.stands(day, known) && paper.isHeldBy(membership, known);
+            return paper != null && paper.number >= 0 && paper.number < had.length && had[paper.number];
         }
 
         boolean hasReserve(Paper paper, int a) {
@@ -937,12 +942,12 @@ public final class TreatyHouse {
         void settle(Register register, int p, int q, Agreement about, int a, int d, int k) {
             forget();
             roll.fill(register, about, d, k);
-            one.set(roll.at(p), d, k);
-            other.set(roll.at(q), d, k);
             needed = about.needed;
-            if (one.membership == null || other.membership == null || roll.length < needed) {
+            if (roll.at(p) == null || roll.at(q) == null || roll.length < needed) {
                 return;
             }
+            one.fill(register, roll.at(p), d, k);
+            other.fill(register, roll.at(q), d, k);
             findStrongObjection(register);
             if (objection != null) {
                 reserve = objection.names;
