@@ -652,7 +652,7 @@ public final class ModelTest {
             for (int i = 0; i < agreements; i++) {
                 agreement(1 + upTo(2), 1 + upTo(oneIn(4) ? 3 : 1), oneIn(3) ? 0 : upTo(4), upTo(6));
             }
-            int length = isDense ? 512 : 120 + upTo(240);
+            int length = isDense ? 490 : 120 + upTo(240);
             while (calls < length && !check.hasWrong()) {
                 int choice = upTo(99);
                 if (choice < (isDense ? 88 : 58)) {
