@@ -1,7 +1,29 @@
-/** Prints every answer that is not the one that is due, and ends the program with 1 if there was one. */
+/**
+ * Prints every answer that is not the one that is due, and ends the program with 1 if there was one, or if the test does
+ * not come to an end.
+ */
 final class Check {
+    private static final long LONGEST_MILLIS = 600_000;
+
     private int made;
     private int wrong;
+
+    Check() {
+        Thread watch = new Thread(Check::endLate);
+        watch.setDaemon(true);
+        watch.start();
+    }
+
+    /** A call without end would otherwise keep .ci/run from ever telling that a test failed. */
+    private static void endLate() {
+        try {
+            Thread.sleep(LONGEST_MILLIS);
+        } catch (InterruptedException e) {
+            return;
+        }
+        System.out.println("the test has not come to an end");
+        Runtime.getRuntime().halt(1);
+    }
 
     void due(String call, long got, long want) {
         made++;
@@ -13,6 +35,14 @@ final class Check {
 
     void due(String call, boolean got, boolean want) {
         due(call, got ? 1L : 0L, want ? 1L : 0L);
+    }
+
+    void due(String call, String got, String want) {
+        made++;
+        if (!got.equals(want)) {
+            wrong++;
+            System.out.println(call + " answered " + got + ", due is " + want);
+        }
     }
 
     /** All numbers that why() or has() tells, from 0 on until NONE. */

@@ -229,7 +229,22 @@ final class Script {
         }
     }
 
-    /** What can only be seen by changing it: the next numbers, what undo() takes back, and WORDS of ARTICLES. */
+    /** An ANNEX's WIDTH shows in how a number is cut. */
+    private static void lookAtWidths(List<Look> row, TreatyHouse house) {
+        int agreements = house.count(1);
+        for (int g = 0; g < agreements; g++) {
+            int about = g;
+            int annexes = house.count(10 * (g + 1) + 4);
+            for (int number = 0; number < annexes; number++) {
+                int annex = number;
+                String name = "(" + g + ", " + annex + ", 0)";
+                row.add(new Look("write" + name, x -> x.write(about, annex, 0, 0x7172737475767778L)));
+                row.add(new Look("read" + name, x -> x.read(about, annex, 0)));
+            }
+        }
+    }
+
+    /** What can only be seen by changing it: the next numbers, what undo() takes back, WIDTHS, and WORDS of ARTICLES. */
     private void dueNextNumbers(String text, Call call, int room) {
         TreatyHouse house = play();
         List<Look> row = new ArrayList<>();
@@ -250,6 +265,9 @@ final class Script {
         List<Look> words = new ArrayList<>();
         lookAtWords(words, house);
         dueAlike(text, call, words, room);
+        List<Look> widths = new ArrayList<>();
+        lookAtWidths(widths, house);
+        dueAlike(text, call, widths, room);
     }
 
     private void dueAlike(String text, Call call, List<Look> row, int room) {
